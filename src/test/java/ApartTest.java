@@ -8,6 +8,7 @@ public final class ApartTest {
         tiesArePaidInTheCheaperDirection(check);
         samePlacesAreRefused(check);
         wrongPlacesAreRefused(check);
+        allOthersKeepTheirBest(check);
         check.done();
     }
 
@@ -57,5 +58,17 @@ public final class ApartTest {
         }
         x.apart(0, 1);
         check.same("energies after apart", Check.energies(x), before);
+    }
+
+    private static void allOthersKeepTheirBest(Check check) {
+        CutLabels x = new CutLabels();
+        for (int place = 0; place < 9; place++) {
+            x.cost(place, 2, 1);
+        }
+        check.due("511 is best: apart(8, 0)", x.apart(8, 0), 10);
+        for (int place = 0; place < 9; place++) {
+            x.cost(place, 3, 5);
+        }
+        check.due("0 is best: apart(8, 0)", x.apart(8, 0), 29);
     }
 }

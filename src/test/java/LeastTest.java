@@ -5,6 +5,7 @@ public final class LeastTest {
         withoutTiesEachPlaceTakesItsCheaperLabel(check);
         aTieIsPaidOnlyWhereItIsCheaper(check);
         greatestEnergy(check);
+        firstAndLastLabellingCount(check);
         check.done();
     }
 
@@ -44,5 +45,17 @@ public final class LeastTest {
         }
         check.due("least() of the greatest costs", x.least(), 900);
         check.due("energy(3) of the greatest costs", x.energy(3), 2500);
+    }
+
+    private static void firstAndLastLabellingCount(Check check) {
+        CutLabels x = new CutLabels();
+        for (int place = 0; place < 9; place++) {
+            x.cost(place, 2, 1);
+        }
+        check.due("only 511 is best: least()", x.least(), 9);
+        for (int place = 0; place < 9; place++) {
+            x.cost(place, 3, 5);
+        }
+        check.due("only 0 is best: least()", x.least(), 27);
     }
 }

@@ -5,6 +5,7 @@ public final class LowerTest {
         onlyPlacesThatGainHaveLabelOne(check);
         tiesPullPlacesToLabelOne(check);
         balancedPlacesStayAtZero(check);
+        firstAndLastLabellingCount(check);
         check.done();
     }
 
@@ -40,5 +41,17 @@ public final class LowerTest {
         check.due("both alike cost 5 either way", x.lower(), 0);
         x.cost(1, 6, 0);
         check.due("label 1 for both is now cheaper", x.lower(), 6);
+    }
+
+    private static void firstAndLastLabellingCount(Check check) {
+        CutLabels x = new CutLabels();
+        for (int place = 0; place < 9; place++) {
+            x.cost(place, 2, 1);
+        }
+        check.due("only 511 is best: lower()", x.lower(), 511);
+        for (int place = 0; place < 9; place++) {
+            x.cost(place, 3, 5);
+        }
+        check.due("only 0 is best: lower()", x.lower(), 0);
     }
 }

@@ -5,6 +5,7 @@ public final class UpperTest {
         onlyPlacesThatLoseHaveLabelZero(check);
         tiesPullPlacesToLabelZero(check);
         balancedPlacesGoToOne(check);
+        firstAndLastLabellingCount(check);
         check.done();
     }
 
@@ -40,5 +41,17 @@ public final class UpperTest {
         check.due("both alike cost 5 either way", x.upper(), 511);
         x.cost(2, 0, 6);
         check.due("label 0 for both is now cheaper", x.upper(), 511 - 6);
+    }
+
+    private static void firstAndLastLabellingCount(Check check) {
+        CutLabels x = new CutLabels();
+        for (int place = 0; place < 9; place++) {
+            x.cost(place, 2, 1);
+        }
+        check.due("only 511 is best: upper()", x.upper(), 511);
+        for (int place = 0; place < 9; place++) {
+            x.cost(place, 3, 5);
+        }
+        check.due("only 0 is best: upper()", x.upper(), 0);
     }
 }

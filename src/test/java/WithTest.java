@@ -8,6 +8,7 @@ public final class WithTest {
         tiesPullTheOtherPlaces(check);
         onlyTheLowestBitOfTheLabelCounts(check);
         wrongPlacesAreRefused(check);
+        firstAndLastLabellingCount(check);
         check.done();
     }
 
@@ -59,5 +60,17 @@ public final class WithTest {
         }
         x.with(0, 1);
         check.same("energies after with", Check.energies(x), before);
+    }
+
+    private static void firstAndLastLabellingCount(Check check) {
+        CutLabels x = new CutLabels();
+        for (int place = 0; place < 9; place++) {
+            x.cost(place, 2, 1);
+        }
+        check.due("only 511 is best: with(8, 1)", x.with(8, 1), 9);
+        for (int place = 0; place < 9; place++) {
+            x.cost(place, 3, 5);
+        }
+        check.due("only 0 is best: with(8, 0)", x.with(8, 0), 27);
     }
 }
