@@ -1,4 +1,5 @@
 import java.util.Arrays;
+import java.util.Map;
 
 /** Collects the answers that are not as due; each test has its own and ends with done(). */
 final class Check {
@@ -15,6 +16,12 @@ final class Check {
         if (!Arrays.equals(got, want)) {
             wrong++;
             System.out.println(what + ": " + Arrays.toString(got) + ", due is " + Arrays.toString(want));
+        }
+    }
+
+    void sameAnswers(String where, Map<String, Integer> got, Map<String, Integer> want) {
+        for (Map.Entry<String, Integer> entry : want.entrySet()) {
+            due(where + ": " + entry.getKey(), got.get(entry.getKey()), entry.getValue());
         }
     }
 

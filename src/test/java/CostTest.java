@@ -8,6 +8,8 @@ public final class CostTest {
         everyPlaceHasItsOwnCosts(check);
         costsAreReplaced(check);
         edgesAreTaken(check);
+        everyCostFromZeroToHundredIsKept(check);
+        oneWrongCostKeepsTheOtherOut(check);
         wrongInputsChangeNothing(check);
         check.done();
     }
@@ -42,6 +44,30 @@ public final class CostTest {
         check.due("energy(1)", x.energy(1), 0);
         check.due("energy(256)", x.energy(256), 200);
         check.due("energy(257)", x.energy(257), 100);
+    }
+
+    private static void everyCostFromZeroToHundredIsKept(Check check) {
+        for (int place = 0; place < 9; place++) {
+            CutLabels x = new CutLabels();
+            for (int cost = 0; cost <= 100; cost++) {
+                check.due("cost(" + place + ", " + cost + ", less)", x.cost(place, cost, 100 - cost), 0);
+                check.due("then energy(0)", x.energy(0), cost);
+                check.due("then energy with only " + place, x.energy(1 << place), 100 - cost);
+            }
+        }
+    }
+
+    private static void oneWrongCostKeepsTheOtherOut(Check check) {
+        for (int place = 0; place < 9; place++) {
+            CutLabels x = new CutLabels();
+            x.cost(place, 30, 60);
+            check.due("cost(" + place + ", 7, 101)", x.cost(place, 7, 101), -1);
+            check.due("cost(" + place + ", 7, -1)", x.cost(place, 7, -1), -1);
+            check.due("cost(" + place + ", 101, 7)", x.cost(place, 101, 7), -1);
+            check.due("cost(" + place + ", -1, 7)", x.cost(place, -1, 7), -1);
+            check.due("then energy(0)", x.energy(0), 30);
+            check.due("then energy with only " + place, x.energy(1 << place), 60);
+        }
     }
 
     private static void wrongInputsChangeNothing(Check check) {

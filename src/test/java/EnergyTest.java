@@ -9,12 +9,18 @@ public final class EnergyTest {
     }
 
     private static void everyLabellingOfCostsAlone(Check check) {
-        CutLabels x = new CutLabels();
         int[] ones = {1, 2, 4, 8, 16, 32, 64, 91, 97};
+        // 9 calls are spent on the costs: the last 12 labellings have an object of their own.
+        energiesFromTo(check, ones, 0, 500);
+        energiesFromTo(check, ones, 500, 512);
+    }
+
+    private static void energiesFromTo(Check check, int[] ones, int from, int end) {
+        CutLabels x = new CutLabels();
         for (int place = 0; place < 9; place++) {
             x.cost(place, 100 - ones[place], ones[place]);
         }
-        for (int labelling = 0; labelling < 500; labelling++) {
+        for (int labelling = from; labelling < end; labelling++) {
             int want = 0;
             for (int place = 0; place < 9; place++) {
                 want += (labelling >> place & 1) == 1 ? ones[place] : 100 - ones[place];
@@ -49,6 +55,12 @@ public final class EnergyTest {
                 check.due("energy(" + low + " and bit " + bit + ")", x.energy(low | 1 << bit), want);
             }
         }
+        check.due("energy(512), past the last labelling, is energy(0)", x.energy(512), 36);
+        check.due("energy(513) is energy(1)", x.energy(513), 36 + 30 + 4);
+        check.due("energy(1023) is energy(511)", x.energy(1023), 30 * 9 + 72);
+        check.due("energy(-512) is energy(0)", x.energy(-512), 36);
+        check.due("energy(-511) is energy(1)", x.energy(-511), 36 + 30 + 4);
+        check.due("energy(-513) is energy(511)", x.energy(-513), 30 * 9 + 72);
         check.due("energy(-1)", x.energy(-1), 30 * 9 + 72);
         check.due("energy(MIN)", x.energy(Integer.MIN_VALUE), 36);
         check.due("energy(MAX)", x.energy(Integer.MAX_VALUE), 30 * 9 + 72);

@@ -5,7 +5,7 @@ import java.util.Arrays;
  * and a sink (label 0), so the least energy is the greatest flow, and the places that the source
  * still reaches, or that no longer reach the sink, are the smallest and the largest best labelling.
  */
-final class FlowModel {
+final class FlowModel implements Face {
     private static final int SOURCE = 9;
     private static final int SINK = 10;
     private static final int NODES = 11;
@@ -16,7 +16,8 @@ final class FlowModel {
     private final int[][] ties = new int[16][];
     private int[][] room;
 
-    int cost(int place, int zeroCost, int oneCost) {
+    @Override
+    public int cost(int place, int zeroCost, int oneCost) {
         if (out(place, 8) || out(zeroCost, 100) || out(oneCost, 100)) {
             return -1;
         }
@@ -25,7 +26,8 @@ final class FlowModel {
         return 0;
     }
 
-    int tie(int tie, int i, int j, int u, int v) {
+    @Override
+    public int tie(int tie, int i, int j, int u, int v) {
         if (out(tie, 15) || out(i, 8) || out(j, 8) || i == j || out(u, 100) || out(v, 100)) {
             return -1;
         }
@@ -33,7 +35,8 @@ final class FlowModel {
         return 0;
     }
 
-    int cut(int tie) {
+    @Override
+    public int cut(int tie) {
         if (out(tie, 15)) {
             return -1;
         }
@@ -42,12 +45,14 @@ final class FlowModel {
         return answer;
     }
 
-    int least() {
+    @Override
+    public int least() {
         prepare();
         return flow();
     }
 
-    int lower() {
+    @Override
+    public int lower() {
         least();
         int found = 0;
         boolean[] reached = reachedFromSource();
@@ -57,7 +62,8 @@ final class FlowModel {
         return found;
     }
 
-    int upper() {
+    @Override
+    public int upper() {
         least();
         int found = 0;
         boolean[] reaching = reachingSink();
@@ -67,7 +73,8 @@ final class FlowModel {
         return found;
     }
 
-    int with(int place, int label) {
+    @Override
+    public int with(int place, int label) {
         if (out(place, 8)) {
             return -1;
         }
@@ -76,7 +83,8 @@ final class FlowModel {
         return flow();
     }
 
-    int apart(int i, int j) {
+    @Override
+    public int apart(int i, int j) {
         if (out(i, 8) || out(j, 8) || i == j) {
             return -1;
         }
@@ -90,7 +98,8 @@ final class FlowModel {
         return Math.min(first, flow());
     }
 
-    int energy(int labelling) {
+    @Override
+    public int energy(int labelling) {
         boolean[] has = new boolean[9];
         int sum = 0;
         for (int place = 0; place < 9; place++) {

@@ -10,7 +10,7 @@ public final class LowerTest {
     }
 
     private static void onlyPlacesThatGainHaveLabelOne(Check check) {
-        for (int wanted = 0; wanted < 512; wanted += 73) {
+        for (int wanted = 0; wanted < 512; wanted++) {
             CutLabels x = new CutLabels();
             for (int place = 0; place < 9; place++) {
                 x.cost(place, (wanted >> place & 1) == 1 ? 8 : 7, 7);

@@ -10,7 +10,11 @@ public final class TieTest {
         everyTieCounts(check);
         tiesOfTheSamePlacesAdd(check);
         tieIsReplacedWhole(check);
+        eachPartIsReplacedAlone(check);
+        everyTieIsReplaced(check);
+        refusedReplacementKeepsTheTie(check);
         edgesAreTaken(check);
+        everyCostFromZeroToHundredIsKept(check);
         wrongInputsChangeNothing(check);
         wrongInputsMakeNoTie(check);
         check.done();
@@ -59,6 +63,72 @@ public final class TieTest {
         check.due("cut(6)", x.cut(6), 1);
         check.due("cut(6) again", x.cut(6), 0);
         check.same("energies with no tie", Check.energies(x), new int[46]);
+    }
+
+    private static void eachPartIsReplacedAlone(Check check) {
+        CutLabels x = new CutLabels();
+        x.tie(6, 0, 1, 10, 20);
+        singles(check, x, "as it was first", 20, 10, 0);
+        check.due("only i: tie(6, 2, 1, 10, 20)", x.tie(6, 2, 1, 10, 20), 0);
+        singles(check, x, "after only i", 0, 10, 20);
+        check.due("only j: tie(6, 2, 0, 10, 20)", x.tie(6, 2, 0, 10, 20), 0);
+        singles(check, x, "after only j", 10, 0, 20);
+        check.due("only u: tie(6, 2, 0, 0, 20)", x.tie(6, 2, 0, 0, 20), 0);
+        singles(check, x, "after only u", 0, 0, 20);
+        check.due("only v: tie(6, 2, 0, 0, 100)", x.tie(6, 2, 0, 0, 100), 0);
+        singles(check, x, "after only v", 0, 0, 100);
+        check.due("i and j changed over: tie(6, 0, 2, 0, 100)", x.tie(6, 0, 2, 0, 100), 0);
+        singles(check, x, "after the change over", 100, 0, 0);
+        check.due("nothing: tie(6, 0, 2, 0, 100)", x.tie(6, 0, 2, 0, 100), 0);
+        singles(check, x, "after the same again", 100, 0, 0);
+        check.due("cut(6)", x.cut(6), 1);
+        check.due("cut(6): it was one tie all along", x.cut(6), 0);
+        singles(check, x, "after the cut", 0, 0, 0);
+    }
+
+    private static void singles(Check check, CutLabels x, String when, int first, int second, int third) {
+        check.due("energy(1) " + when, x.energy(1), first);
+        check.due("energy(2) " + when, x.energy(2), second);
+        check.due("energy(4) " + when, x.energy(4), third);
+    }
+
+    private static void everyTieIsReplaced(Check check) {
+        CutLabels x = new CutLabels();
+        for (int tie = 0; tie < 16; tie++) {
+            x.tie(tie, 0, 1, 100, 100);
+        }
+        for (int tie = 0; tie < 16; tie++) {
+            check.due("tie(" + tie + ", 7, 8, 1, 2)", x.tie(tie, 7, 8, 1, 2), 0);
+            check.due("energy(1) with ties up to " + tie + " replaced", x.energy(1), 1500 - 100 * tie);
+            check.due("energy(128) with ties up to " + tie + " replaced", x.energy(128), 2 * tie + 2);
+        }
+    }
+
+    private static void refusedReplacementKeepsTheTie(Check check) {
+        for (int tie = 0; tie < 16; tie++) {
+            CutLabels x = new CutLabels();
+            x.tie(tie, 0, 1, 10, 20);
+            check.due("i = j for tie " + tie, x.tie(tie, 2, 2, 1, 1), -1);
+            check.due("i = j where i was for tie " + tie, x.tie(tie, 0, 0, 1, 1), -1);
+            check.due("u 101 for tie " + tie, x.tie(tie, 1, 2, 101, 1), -1);
+            check.due("v -1 for tie " + tie, x.tie(tie, 1, 2, 1, -1), -1);
+            check.due("j 9 for tie " + tie, x.tie(tie, 2, 9, 1, 1), -1);
+            check.due("i -1 for tie " + tie, x.tie(tie, -1, 2, 1, 1), -1);
+            singles(check, x, "after refused calls for tie " + tie, 20, 10, 0);
+            check.due("cut(" + tie + ")", x.cut(tie), 1);
+        }
+    }
+
+    private static void everyCostFromZeroToHundredIsKept(Check check) {
+        for (int tie = 0; tie < 16; tie++) {
+            CutLabels x = new CutLabels();
+            for (int cost = 0; cost <= 100; cost++) {
+                check.due("tie(" + tie + ", 0, 8, " + cost + ", less)", x.tie(tie, 0, 8, cost, 100 - cost), 0);
+                check.due("then energy(256)", x.energy(256), cost);
+                check.due("then energy(1)", x.energy(1), 100 - cost);
+                check.due("then energy(257)", x.energy(257), 0);
+            }
+        }
     }
 
     private static void edgesAreTaken(Check check) {

@@ -10,7 +10,7 @@ public final class UpperTest {
     }
 
     private static void onlyPlacesThatLoseHaveLabelZero(Check check) {
-        for (int wanted = 0; wanted < 512; wanted += 73) {
+        for (int wanted = 0; wanted < 512; wanted++) {
             CutLabels x = new CutLabels();
             for (int place = 0; place < 9; place++) {
                 x.cost(place, 7, (wanted >> place & 1) == 1 ? 7 : 8);

@@ -7,6 +7,7 @@ public final class WithTest {
         otherPlacesStillTakeTheirBest(check);
         tiesPullTheOtherPlaces(check);
         onlyTheLowestBitOfTheLabelCounts(check);
+        everyBitOfTheLabelButTheLowestIsLeftOut(check);
         wrongPlacesAreRefused(check);
         firstAndLastLabellingCount(check);
         check.done();
@@ -47,6 +48,20 @@ public final class WithTest {
         }
         for (int label : odds) {
             check.due("with(8, " + label + ")", x.with(8, label), 70);
+        }
+    }
+
+    private static void everyBitOfTheLabelButTheLowestIsLeftOut(Check check) {
+        for (int place = 0; place < 9; place++) {
+            CutLabels x = new CutLabels();
+            x.cost(place, 3, 70);
+            for (int bit = 1; bit < 32; bit++) {
+                int high = 1 << bit;
+                check.due("with(" + place + ", " + high + ")", x.with(place, high), 3);
+                check.due("with(" + place + ", " + (high | 1) + ")", x.with(place, high | 1), 70);
+                check.due("with(" + place + ", " + -high + ")", x.with(place, -high), 3);
+                check.due("with(" + place + ", " + (-high | 1) + ")", x.with(place, -high | 1), 70);
+            }
         }
     }
 
