@@ -119,5 +119,10 @@ public final class AllOrNothingTest {
         due(name, "energy(1)", 1584);
         due(name, "energy(257)", 0);
         due(name, "apart(0, 8)", 1584);
+        String dearest = "all costs 100, all 16 ties of 100 on the same two places";
+        bestOnes(dearest, 900, 0, 511);
+        due(dearest, "apart(0, 8)", 2500);
+        due(dearest, "apart(8, 0)", 2500);
+        due(dearest, "apart(0, 7)", 900);
     }
 }

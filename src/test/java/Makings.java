@@ -30,6 +30,12 @@ final class Makings {
                 x.tie(tie, 0, 8, 100, 99);
             }
         });
+        all.put("all costs 100, all 16 ties of 100 on the same two places", x -> {
+            costs(x, 100, 100);
+            for (int tie = 0; tie < 16; tie++) {
+                x.tie(tie, 0, 8, 100, 100);
+            }
+        });
         all.put("all set, all different", Makings::allDifferent);
         all.put("half the ties", Makings::halfTheTies);
         return all;
